@@ -9,6 +9,10 @@ public final class BoundTrees {
     private static final int COVERS = 6, MEMBERS = 5;
     private static final int TRAIL_NODES = 7, ELEMENTS = 6;
     private static final int BASE = 11, BACK = 10;
+    private static final int ALL_INTS = NODES * FILE_INTS;
+    private static final int ALL_DOT_NODES = PROCESSES * TRAIL_NODES;
+    private static final int ALL_COVERS = PROCESSES * COVERS, ALL_MEMBERS = ALL_COVERS * MEMBERS;
+    private static final int ALL_DESCRIPTORS = PROCESSES * DESCRIPTORS, ALL_OPEN_NODES = ALL_DESCRIPTORS * MEMBERS;
     private static final int FREE = 0, THERE = 1, GONE = 2;
     private static final int OWN_SPACE = 0, COPIED_SPACE = 1, EMPTY_SPACE = 2;
     private static final int REPLACE = 0, BEFORE = 1, AFTER = 2;
@@ -22,7 +26,7 @@ public final class BoundTrees {
     private final int[] nodeParent = new int[NODES];
     private final int[] nodeVersion = new int[NODES];
     private final int[] nodeSize = new int[NODES];
-    private final int[] nodeInts = new int[NODES * FILE_INTS];
+    private final int[] nodeInts = new int[ALL_INTS];
     /** When a node was made: numbers are used again, so they don't tell the order of children. */
     private final int[] nodeStamp = new int[NODES];
     private final boolean[] nodeIsHeld = new boolean[NODES];
@@ -32,21 +36,21 @@ public final class BoundTrees {
     private final int[] processSpace = new int[PROCESSES];
     private final int[] processTable = new int[PROCESSES];
     private final int[] dotLength = new int[PROCESSES];
-    private final int[] dotNode = new int[PROCESSES * TRAIL_NODES];
+    private final int[] dotNode = new int[ALL_DOT_NODES];
 
     /** A cover is in use exactly if it has members; space s has those from s * COVERS on. */
-    private final int[] coverCount = new int[PROCESSES * COVERS];
-    private final int[] coveredNode = new int[PROCESSES * COVERS];
-    private final int[] memberNode = new int[PROCESSES * COVERS * MEMBERS];
-    private final boolean[] memberCreates = new boolean[PROCESSES * COVERS * MEMBERS];
+    private final int[] coverCount = new int[ALL_COVERS];
+    private final int[] coveredNode = new int[ALL_COVERS];
+    private final int[] memberNode = new int[ALL_MEMBERS];
+    private final boolean[] memberCreates = new boolean[ALL_MEMBERS];
 
     /** A descriptor is open exactly if it has nodes; table t has those from t * DESCRIPTORS on. */
-    private final int[] openCount = new int[PROCESSES * DESCRIPTORS];
-    private final int[] openNode = new int[PROCESSES * DESCRIPTORS * MEMBERS];
+    private final int[] openCount = new int[ALL_DESCRIPTORS];
+    private final int[] openNode = new int[ALL_OPEN_NODES];
     /** Which of a descriptor's directories is being read. */
-    private final int[] openMember = new int[PROCESSES * DESCRIPTORS];
+    private final int[] openMember = new int[ALL_DESCRIPTORS];
     /** A file's position, or the stamp of the child read last from the directory being read. */
-    private final int[] openPosition = new int[PROCESSES * DESCRIPTORS];
+    private final int[] openPosition = new int[ALL_DESCRIPTORS];
 
     /** The trail of the evaluation made last. */
     private final int[] trail = new int[TRAIL_NODES];
