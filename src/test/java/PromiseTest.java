@@ -109,6 +109,8 @@ public final class PromiseTest {
         due("from dot", x.place(0, from(2, 4)), 7);
         due("back", x.place(0, abs(2, 4, BACK, 3)), 6);
         due("back from a file", x.place(0, abs(1, 3, BACK)), 3);
+        due("back at the root", x.place(0, abs(BACK)), 0);
+        due("back at the root", x.place(0, abs(BACK, 1)), 3);
         due("back at the root", x.place(0, abs(BACK, BACK, 1)), 3);
         due("not there", x.place(0, abs(9)), NOT_FOUND);
         due("below a file", x.place(0, abs(1, 3, 1)), NOT_DIRECTORY);
@@ -227,6 +229,32 @@ public final class PromiseTest {
         due("the least number", x.fork(3, 1, true), 0);
         seenIs(x, 0, abs(1), 3);
         due("of process 3", x.dot(0), abs(2));
+    }
+
+    private static void promise4Anew() {
+        part = "promise 4, what a process left behind";
+        BoundTrees x = small();
+        due("fork", x.fork(0, 2, false), 1);
+        for (int i = 0; i < 4; i++) {
+            due("open", x.open(1, abs(1)), i);
+        }
+        due("no descriptor behind the last", x.read(0, 4), CLOSED);
+        due("no descriptor behind the last", x.close(0, 4), false);
+        due("cover", x.mount(1, 1, ROOT, 2, true), 2);
+        due("cover", x.mount(1, 1, abs(1), 2, true), 2);
+        due("cover", x.mount(1, 1, abs(2), 2, true), 2);
+        due("cover", x.mount(1, 1, abs(2, 4), 2, true), 2);
+        due("chdir", x.chdir(1, abs(2, 4)), 7);
+        due("exit", x.exit(1), 1);
+        due("fork", x.fork(0, 2, false), 1);
+        seenIs(x, 1, ROOT, 0);
+        seenIs(x, 1, abs(1), 3);
+        seenIs(x, 1, abs(2), 4);
+        seenIs(x, 1, abs(2, 4), 7);
+        due("dot", x.dot(1), ROOT);
+        for (int d = 0; d < 4; d++) {
+            due("closed", x.read(1, d), CLOSED);
+        }
     }
 
     private static void promise4Descriptors() {
@@ -384,6 +412,24 @@ public final class PromiseTest {
         due("unmount the first", x.unmount(0, abs(1), abs(1)), 3);
         due("not covered by itself", x.bind(0, abs(2), abs(2), 1, false), 2);
         seenIs(x, 0, abs(2), 4, 4);
+    }
+
+    private static void promise8Five() {
+        part = "promise 8, five members";
+        BoundTrees x = small();
+        due("two", x.bind(0, abs(2), abs(1), 2, false), 2);
+        due("four", x.bind(0, abs(1), abs(1), 2, false), 4);
+        due("five", x.mount(0, 2, abs(1), 1, true), 5);
+        due("five over another", x.bind(0, abs(1), abs(2), 0, false), 5);
+        seenIs(x, 0, abs(2), 2, 3, 4, 3, 4);
+        due("five and itself", x.bind(0, abs(1), abs(2, 4), 1, false), FULL);
+        due("no room before", x.bind(0, abs(2, 4), abs(2), 1, false), FULL);
+        due("no room behind", x.bind(0, abs(2, 4), abs(2), 2, false), FULL);
+        due("open five", x.open(0, abs(2)), 0);
+        readIs(x, 0, 0, 5, 6, 7, 5, 6, 7, END);
+        due("the middle one goes", x.unmount(0, abs(2), abs(2)), 4);
+        seenIs(x, 0, abs(2), 2, 3, 3, 4);
+        due("the other list is its own", x.seen(0, abs(1), 2), 4);
     }
 
     private static void promise8Refusals() {
@@ -807,6 +853,13 @@ public final class PromiseTest {
         readIs(x, 0, 0, END);
         due("open", x.open(0, abs(2)), 1);
         readIs(x, 0, 1, 7, END);
+        due("the root behind", x.mount(0, 0, abs(3), 2, false), 2);
+        due("open", x.open(0, abs(3)), 2);
+        readIs(x, 0, 2, 6, 3, 4, 5, END);
+        due("close", x.close(0, 2), true);
+        due("the root itself", x.open(0, ROOT), 2);
+        readIs(x, 0, 2, 3, 4, 5, END);
+        due("close", x.close(0, 2), true);
         due("a member twice", x.bind(0, abs(2), abs(2), 2, false), 2);
         due("open", x.open(0, abs(2)), 2);
         readIs(x, 0, 2, 7, 7, END);
@@ -981,6 +1034,7 @@ public final class PromiseTest {
         promise2GoneOnTheTrail();
         promise3();
         promise4Spaces();
+        promise4Anew();
         promise4Descriptors();
         promise4CopiesOfReading();
         promise5();
@@ -988,6 +1042,7 @@ public final class PromiseTest {
         promise7();
         promise8();
         promise8OverItself();
+        promise8Five();
         promise8Refusals();
         promise8Covers();
         promise8ReplacedAreLetGo();
