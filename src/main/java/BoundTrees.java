@@ -73,16 +73,10 @@ public final class BoundTrees {
     }
 
     public int place(int p, int path) {
-        if (!isProcess(p) || !isPath(path)) {
-            return REFUSED;
-        }
         return evaluate(p, path);
     }
 
     public int seen(int p, int path, int k) {
-        if (!isProcess(p) || !isPath(path)) {
-            return REFUSED;
-        }
         int node = evaluate(p, path);
         if (node < 0) {
             return node;
@@ -103,8 +97,8 @@ public final class BoundTrees {
             return FULL;
         }
         // Both are sought while the child is not there yet, so at most three are in use.
-        int itsSpace = space == OWN_SPACE ? processSpace[p] : unusedSpace();
-        int itsTable = shared ? processTable[p] : unusedTable();
+        int itsSpace = space == OWN_SPACE ? processSpace[p] : unusedOf(processSpace);
+        int itsTable = shared ? processTable[p] : unusedOf(processTable);
         if (space == COPIED_SPACE) {
             copySpace(processSpace[p], itsSpace);
         }
@@ -131,9 +125,6 @@ public final class BoundTrees {
     }
 
     public int chdir(int p, int path) {
-        if (!isProcess(p) || !isPath(path)) {
-            return REFUSED;
-        }
         int node = evaluate(p, path);
         if (node < 0) {
             return node;
@@ -266,9 +257,6 @@ public final class BoundTrees {
     }
 
     public int remove(int p, int path) {
-        if (!isProcess(p) || !isPath(path)) {
-            return REFUSED;
-        }
         int node = evaluate(p, path);
         if (node < 0) {
             return node;
@@ -286,9 +274,6 @@ public final class BoundTrees {
     }
 
     public int open(int p, int path) {
-        if (!isProcess(p) || !isPath(path)) {
-            return REFUSED;
-        }
         int node = evaluate(p, path);
         if (node < 0) {
             return node;
@@ -443,6 +428,9 @@ public final class BoundTrees {
 
     /** The place of a path, or why there is none; the trail is left in the field. */
     private int evaluate(int p, int path) {
+        if (!isProcess(p) || !isPath(path)) {
+            return REFUSED;
+        }
         beginTrail(p, path);
         readElements(path);
         for (int i = elementCount - 1; i >= 0; i--) {
@@ -613,34 +601,21 @@ public final class BoundTrees {
         return count;
     }
 
-    private int unusedSpace() {
+    /** The least number of a space or a table that no process has, given those that they have. */
+    private int unusedOf(int[] numbers) {
         int used = 0;
         for (int p = 0; p < PROCESSES; p++) {
             if (processIsThere[p]) {
-                used |= 1 << processSpace[p];
+                used |= 1 << numbers[p];
             }
         }
-        return lowestZeroBit(used);
-    }
-
-    private int unusedTable() {
-        int used = 0;
-        for (int p = 0; p < PROCESSES; p++) {
-            if (processIsThere[p]) {
-                used |= 1 << processTable[p];
-            }
-        }
-        return lowestZeroBit(used);
-    }
-
-    private static int lowestZeroBit(int bits) {
-        int lowest = 0;
+        int least = 0;
         for (int i = PROCESSES - 1; i >= 0; i--) {
-            if ((bits & (1 << i)) == 0) {
-                lowest = i;
+            if ((used & (1 << i)) == 0) {
+                least = i;
             }
         }
-        return lowest;
+        return least;
     }
 
     private void copyDot(int from, int to) {
