@@ -689,17 +689,19 @@ public final class BoundTrees {
         return nodeInts[file * FILE_INTS + position];
     }
 
-    /** END moves nothing: a directory is done with only when a child of a later one is read. */
+    /** END stands behind the last directory, so those before it are done with even if nothing was found. */
     private long readDirectories(int slot) {
-        int stamp = openPosition[slot];
-        for (int i = openMember[slot]; i < openCount[slot]; i++) {
-            int child = childMadeAfter(openNode[slot * MEMBERS + i], stamp);
+        int last = openCount[slot] - 1;
+        for (int i = openMember[slot]; i <= last; i++) {
+            int child = childMadeAfter(openNode[slot * MEMBERS + i], openPosition[slot]);
             if (child != MISSING) {
-                openMember[slot] = i;
                 openPosition[slot] = nodeStamp[child];
                 return child;
             }
-            stamp = 0;
+            if (i < last) {
+                openMember[slot] = i + 1;
+                openPosition[slot] = 0;
+            }
         }
         return END;
     }

@@ -404,17 +404,20 @@ public final class ModelTest {
             if (!first.directory) {
                 return q.position < first.ints.size() ? first.ints.get(q.position++) : END;
             }
-            for (int i = q.at; i < q.nodes.size(); i++) {
-                List<Node> made = q.nodes.get(i).everMade;
-                for (int k = i == q.at ? q.position : 0; k < made.size(); k++) {
-                    if (!made.get(k).gone) {
-                        q.at = i;
-                        q.position = k + 1;
-                        return made.get(k).number;
+            for (;;) {
+                List<Node> made = q.nodes.get(q.at).everMade;
+                while (q.position < made.size()) {
+                    Node child = made.get(q.position++);
+                    if (!child.gone) {
+                        return child.number;
                     }
                 }
+                if (q.at == q.nodes.size() - 1) {
+                    return END;
+                }
+                q.at++;
+                q.position = 0;
             }
-            return END;
         }
 
         int write(int p, int d, int v) {

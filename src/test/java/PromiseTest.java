@@ -865,17 +865,65 @@ public final class PromiseTest {
         readIs(x, 0, 2, 7, 7, END);
     }
 
-    private static void promise14EndMovesNothing() {
-        part = "promise 14, END moves nothing";
+    private static void promise14EndOfUnions() {
+        part = "promise 14, END of unions";
         BoundTrees x = new BoundTrees();
         due("make", x.create(0, abs(1), true), 3);
         due("make", x.create(0, abs(2), true), 4);
         due("union of two empty ones", x.bind(0, abs(2), abs(1), 1, true), 2);
         due("open", x.open(0, abs(1)), 0);
+        due("open, not read", x.open(0, abs(1)), 1);
         readIs(x, 0, 0, END);
-        due("made since, in the first", x.create(0, abs(1, 1), false), 5);
+        due("made in the first, which is done with", x.create(0, abs(1, 1), false), 5);
         due("parent", x.about(5, 4), 4);
-        readIs(x, 0, 0, 5, END);
+        readIs(x, 0, 0, END);
+        readIs(x, 0, 1, 5);
+        due("unmount", x.unmount(0, NONE, abs(1)), 0);
+        due("made in the last", x.create(0, abs(1, 2), false), 6);
+        readIs(x, 0, 0, 6, END);
+        due("made in the first", x.create(0, abs(2, 2), false), 7);
+        readIs(x, 0, 0, END);
+        readIs(x, 0, 1, 7, 6, END);
+        due("anew", x.seek(0, 0, 0), true);
+        readIs(x, 0, 0, 5, 7, 6, END);
+    }
+
+    /** END of a full first directory, with the last one empty, moves on to the last one too. */
+    private static void promise14EndBehindAnEmptyLast() {
+        part = "promise 14, END behind an empty last one";
+        BoundTrees x = small();
+        due("make", x.create(0, abs(5), true), 8);
+        due("make", x.create(0, abs(6), true), 9);
+        due("union", x.bind(0, abs(5), abs(2), 2, false), 2);
+        due("union", x.bind(0, abs(6), abs(2), 2, false), 3);
+        due("open", x.open(0, abs(2)), 0);
+        readIs(x, 0, 0, 6, 7);
+        due("a copy from before END", x.fork(0, 2, false), 1);
+        readIs(x, 0, 0, END);
+        due("a copy from after END", x.fork(0, 2, false), 2);
+        due("in the first", x.create(1, abs(2, 9), false), 10);
+        due("in the second", x.create(1, abs(5, 9), false), 11);
+        readIs(x, 0, 0, END);
+        due("in the last", x.create(1, abs(6, 9), false), 12);
+        due("in the last", x.create(1, abs(6, 8), false), 13);
+        due("gone before it is read", x.remove(1, abs(6, 9)), 12);
+        readIs(x, 0, 0, 13, END);
+        readIs(x, 1, 0, 10, 11, 13, END);
+        readIs(x, 2, 0, 13, END);
+    }
+
+    private static void promise14EndOfOneTwice() {
+        part = "promise 14, END of a directory that is a member twice";
+        BoundTrees x = new BoundTrees();
+        due("the root before itself", x.bind(0, ROOT, ROOT, 1, true), 2);
+        due("shared", x.fork(0, 0, true), 1);
+        due("open", x.open(0, ROOT), 0);
+        readIs(x, 0, 0, END);
+        due("made since", x.create(0, abs(1), false), 3);
+        readIs(x, 1, 0, 3);
+        readIs(x, 0, 0, END);
+        due("anew", x.seek(1, 0, 0), true);
+        readIs(x, 0, 0, 3, 3, END);
     }
 
     private static void promise15() {
@@ -1061,7 +1109,9 @@ public final class PromiseTest {
         promise14Directories();
         promise14Unions();
         promise14EmptyMembers();
-        promise14EndMovesNothing();
+        promise14EndOfUnions();
+        promise14EndBehindAnEmptyLast();
+        promise14EndOfOneTwice();
         promise15();
         promise16();
         promise17();
