@@ -11,7 +11,8 @@ public final class ModelTest {
     private static final int FULL = -6, KIND = -7, NO_CREATE = -8, NOT_EMPTY = -9, NOT_BOUND = -10;
     private static final int NONE = 1 << 30;
     private static final long END = 1L << 40, CLOSED = -(1L << 40);
-    private static final int RUNS = 2000, CALLS = 512;
+    /** An object is used for 512 calls: the last of them ask about each node. */
+    private static final int RUNS = 3000, CALLS = 512, LAST_CALLS = 50 + 2 * 48;
 
     /** An answer that stands in place of a node. */
     private static final class Refusal extends Exception {
@@ -482,17 +483,17 @@ public final class ModelTest {
         return (int) ((seed >>> 33) % bound);
     }
 
-    /** Most paths lead somewhere; some are any row, and now and then any int. */
-    private static int anyPath(Model m, int p, int names) {
-        if (chance(60) == 0) {
+    /** Most paths lead somewhere, to a directory at least if one is to be made in it; now and then it is any int. */
+    private static int anyPath(Model m, int p, int names, boolean inside) {
+        if (chance(80) == 0) {
             return (int) (seed >>> 16);
         }
-        if (chance(80) == 0) {
+        if (chance(100) == 0) {
             return NONE;
         }
         boolean root = chance(3) != 0;
         boolean there = p >= 0 && p < 4 && m.processes[p] != null;
-        int row = there && chance(6) != 0 ? likelyRow(m, m.processes[p], root, names) : anyRow(names);
+        int row = there && chance(10) != 0 ? likelyRow(m, m.processes[p], root, names, inside) : anyRow(names);
         return root ? -1 - row : row;
     }
 
@@ -506,17 +507,21 @@ public final class ModelTest {
         return row;
     }
 
-    private static int likelyRow(Model m, Process q, boolean root, int names) {
+    private static int likelyRow(Model m, Process q, boolean root, int names, boolean inside) {
         int row = 0;
         Node last = root ? m.nodes[0] : q.dot.get(q.dot.size() - 1);
         int length = chance(3) == 0 ? chance(7) : chance(4);
         for (int i = 0; i < length; i++) {
             List<Node> children = new ArrayList<>();
+            boolean filesToo = chance(12) == 0 || (i == length - 1 && !inside);
             for (Node directory : Model.seenAt(q, last)) {
-                children.addAll(directory.children);
+                directory.children.forEach(c -> { if (c.directory || filesToo) children.add(c); });
+            }
+            if (children.isEmpty() && chance(6) != 0) {
+                return row;
             }
             int e = chance(12) == 0 ? 10 : 1 + chance(names);
-            if (!children.isEmpty() && chance(8) != 0) {
+            if (!children.isEmpty() && chance(16) != 0) {
                 last = children.get(chance(children.size()));
                 e = last.name;
             }
@@ -527,9 +532,9 @@ public final class ModelTest {
 
     /** A row to create at: a likely one and a name behind it. */
     private static int newPath(Model m, int p, int names) {
-        int path = anyPath(m, p, names);
+        int path = anyPath(m, p, names, true);
         int row = path < 0 ? -1 - path : path;
-        if (row >= 161051 || chance(10) == 0) {
+        if (row >= 161051 || chance(20) == 0) {
             return path;
         }
         int longer = row * 11 + 1 + chance(names);
@@ -542,15 +547,18 @@ public final class ModelTest {
 
     private static int anyProcess(Model m) {
         int p = near(4);
-        return p >= 0 && p < 4 && m.processes[p] == null && chance(4) != 0 ? anyThere(m) : p;
-    }
-
-    private static int anyThere(Model m) {
-        int p = 0;
-        while (m.processes[p] == null) {
-            p++;
+        for (int i = 0; i < 8 && p >= 0 && p < 4 && m.processes[p] == null; i++) {
+            p = chance(4);
         }
         return p;
+    }
+
+    private static int anyDescriptor(Model m, int p) {
+        int d = near(4);
+        for (int i = 0; i < 4 && d >= 0 && d < 4 && m.descriptor(p, d) == null; i++) {
+            d = chance(4);
+        }
+        return d;
     }
 
     private static void compare(String name, String call, long got, long want) {
@@ -566,9 +574,9 @@ public final class ModelTest {
     }
 
     private static void oneCall(BoundTrees x, Model m, int names, boolean calm) {
-        int which = chance(calm ? 140 : 90);
-        int p = anyProcess(m), o = near(3), d = near(4), v = (int) (seed >>> 20);
-        int a = which < 74 ? anyPath(m, p, names) : newPath(m, p, names), b = anyPath(m, p, names);
+        int which = chance(calm ? 145 : 95);
+        int p = anyProcess(m), o = near(3), d = anyDescriptor(m, p), v = (int) (seed >>> 20);
+        int a = which < 74 ? anyPath(m, p, names, false) : newPath(m, p, names), b = anyPath(m, p, names, false);
         boolean yes = chance(3) != 0;
         String name = "";
         String args = "";
@@ -610,6 +618,12 @@ public final class ModelTest {
                 name = "seek"; args = p + ", " + d + ", " + k; got = x.seek(p, d, k) ? 1 : 0; want = m.seek(p, d, k);
             } else if (which < 74) {
                 name = "close"; args = p + ", " + d; got = x.close(p, d) ? 1 : 0; want = m.close(p, d);
+            } else if (which < 76) {
+                int node = near(48);
+                name = "state"; args = "" + node; got = x.state(node); want = m.state(node);
+            } else if (which < 79) {
+                int node = near(chance(2) == 0 ? 48 : 9), what = near(5);
+                name = "about"; args = node + ", " + what; got = x.about(node, what); want = m.about(node, what);
             } else {
                 name = "create"; args = p + ", " + a + ", " + yes; got = x.create(p, a, yes); want = m.create(p, a, yes);
             }
@@ -624,8 +638,6 @@ public final class ModelTest {
         for (int node = -1; node <= 48; node++) {
             compare("state", "state(" + node + ")", x.state(node), m.state(node));
         }
-        int node = near(48), what = near(5);
-        compare("about", "about(" + node + ", " + what + ")", x.about(node, what), m.about(node, what));
         for (int i = 0; i < 48; i++) {
             compare("about", "about(" + i + ", 0)", x.about(i, 0), m.about(i, 0));
             compare("about", "about(" + i + ", 4)", x.about(i, 4), m.about(i, 4));
@@ -640,26 +652,21 @@ public final class ModelTest {
         Model m = new Model();
         int names = 2 + chance(8);
         boolean calm = run % 2 == 0;
-        for (int call = 0; call < CALLS; call++) {
+        for (int call = 0; call < CALLS - LAST_CALLS; call++) {
             oneCall(x, m, names, calm);
-            if (call % 32 == 31) {
-                int before = told.size();
-                compareNodes(x, m);
-                while (told.size() > before) {
-                    told.remove(told.size() - 1);
-                }
-            }
         }
+        compareNodes(x, m);
     }
 
     /** Runs that never bring about an answer would say nothing of it. */
     private static int rare() {
         int missing = 0;
         String[] expected = {
-            "place -1", "place -2", "place -3", "place -4", "chdir -4", "bind -2", "bind -4", "unmount -2", "seen 1073741824", "fork -1", "fork -6", "exit -1",
-            "chdir -3", "bind -1", "bind -6", "bind -7", "mount -6", "mount -7", "unmount -10", "create -2",
-            "create -3", "create -5", "create -6", "create -8", "remove -7", "remove -9", "open -6",
-            "read 1099511627776", "read -1099511627776", "write -1", "write -6"};
+            "place -1", "place -2", "place -3", "place -4", "seen -4", "seen 1073741824", "fork -1", "fork -6", "exit -1",
+            "chdir -3", "chdir -4", "bind -1", "bind -2", "bind -4", "bind -6", "bind -7", "mount -4", "mount -6", "mount -7",
+            "unmount -2", "unmount -4", "unmount -10", "create -2", "create -3", "create -4", "create -5", "create -6",
+            "create -8", "remove -4", "remove -7", "remove -9", "open -4", "open -6", "read 1099511627776",
+            "read -1099511627776", "write -1", "write -6", "state -1", "about -1"};
         for (String e : expected) {
             if (answers.getOrDefault(e, 0) < 5) {
                 missing++;
