@@ -31,7 +31,12 @@ public final class LanguageTest {
     private static final String WORDS_BEFORE_BRACKET = "if|for|while|switch|return|do|else|case";
     private static final int LONGEST_METHOD = 60, DEEPEST_CALLS = 6, MOST_FIELDS = 40, MOST_PARAMETERS = 7;
 
+    private static final int[] ARGUMENTS = {
+        Integer.MIN_VALUE, -1771562, -1771561, -25, -14, -13, -12, -11, -4, -3, -2, -1, 0, 1, 2, 3, 4, 5, 6, 9, 10, 11, 12, 13,
+        24, 47, 48, 120, 121, 1771560, 1771561, BoundTrees.NONE, Integer.MAX_VALUE};
+
     private static int wrong = 0;
+    private static long seed = 1;
 
     private static void check(boolean fine, String what) {
         if (!fine) {
@@ -181,12 +186,57 @@ public final class LanguageTest {
         }
     }
 
+    private static int chance(int bound) {
+        seed = seed * 6364136223846793005L + 1442695040888963407L;
+        return (int) ((seed >>> 33) % bound);
+    }
+
+    private static int any() {
+        return ARGUMENTS[chance(ARGUMENTS.length)];
+    }
+
+    private static void anyCall(BoundTrees x) {
+        int p = chance(8) == 0 ? any() : chance(4);
+        boolean yes = chance(2) == 0;
+        switch (chance(18)) {
+            case 0: x.place(p, any()); break;
+            case 1: x.seen(p, any(), any()); break;
+            case 2: x.fork(p, any(), yes); break;
+            case 3: x.exit(p); break;
+            case 4: x.chdir(p, any()); break;
+            case 5: x.dot(p); break;
+            case 6: x.bind(p, any(), any(), chance(3), yes); break;
+            case 7: x.mount(p, chance(3), any(), chance(3), yes); break;
+            case 8: x.unmount(p, any(), any()); break;
+            case 9: x.create(p, any(), yes); break;
+            case 10: x.remove(p, any()); break;
+            case 11: x.open(p, any()); break;
+            case 12: x.read(p, any()); break;
+            case 13: x.write(p, any(), any()); break;
+            case 14: x.seek(p, any(), any()); break;
+            case 15: x.close(p, any()); break;
+            case 16: x.state(any()); break;
+            default: x.about(any(), any()); break;
+        }
+    }
+
+    /** Rule 7: what calls behind the 512th answer is free, but they may not throw either. */
+    private static void nothingIsThrown() {
+        for (int i = 0; i < 20; i++) {
+            BoundTrees x = new BoundTrees();
+            for (int call = 0; call < 20000; call++) {
+                anyCall(x);
+            }
+        }
+    }
+
     public static void main(String[] args) throws IOException {
         face();
         fields();
         String text = withoutComments(Files.readString(Path.of("src/main/java/BoundTrees.java")));
         text(text);
         methods(text);
+        nothingIsThrown();
         System.out.println(wrong == 0 ? "the class keeps to the rules" : wrong + " breaches");
         if (wrong != 0) {
             System.exit(1);
